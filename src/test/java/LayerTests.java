@@ -79,6 +79,8 @@ public final class LayerTests {
         Check.due("getOr(3, 6, 1, 2)", x.getOr(3, 6, 1, 2), SettingsDrawer.BAD);
         Check.due("getOr(3, 0, 6, 2), with an entry", x.getOr(3, 0, 6, 2), SettingsDrawer.BAD);
         Check.due("getOr(3, 0, -1, 2), with an entry", x.getOr(3, 0, -1, 2), SettingsDrawer.BAD);
+        Check.due("getOr(4, nothing, 1, 2)", x.getOr(4, 3, 1, 2), SettingsDrawer.BAD);
+        Check.due("getOr(3, nothing, 6, 2)", x.getOr(3, 3, 6, 2), SettingsDrawer.BAD);
         Check.due("getOr(3, 0, 1, 6)", x.getOr(3, 0, 1, 6), SettingsDrawer.BAD);
         Check.due("getOr(3, b, other)", x.getOr(3, 0, 1, 2), 2);
         Check.dueText("with an entry", Check.read(x, 2), "b3");
@@ -100,6 +102,7 @@ public final class LayerTests {
         Check.put(x, 0, "b");
         Check.due("has(-1, 0)", x.has(-1, 0), SettingsDrawer.BAD);
         Check.due("has(4, 0)", x.has(4, 0), SettingsDrawer.BAD);
+        Check.due("has(4, nothing)", x.has(4, 3), SettingsDrawer.BAD);
         Check.due("has(0, 6)", x.has(0, 6), SettingsDrawer.BAD);
         int[] want = {1, 1, 0, 1};
         for (int layer = 0; layer < 4; layer++) {
@@ -116,6 +119,7 @@ public final class LayerTests {
         Check.put(x, 0, "b");
         Check.due("layerOf(-1, 0)", x.layerOf(-1, 0), SettingsDrawer.BAD);
         Check.due("layerOf(4, 0)", x.layerOf(4, 0), SettingsDrawer.BAD);
+        Check.due("layerOf(4, nothing)", x.layerOf(4, 5), SettingsDrawer.BAD);
         Check.due("layerOf(0, -1)", x.layerOf(0, -1), SettingsDrawer.BAD);
         int[] want = {0, 1, 1, 3};
         for (int layer = 0; layer < 4; layer++) {
@@ -197,6 +201,8 @@ public final class LayerTests {
         Check.due("drop(4, 0, 1)", x.drop(4, 0, 1), SettingsDrawer.BAD);
         Check.due("drop(0, 6, 1)", x.drop(0, 6, 1), SettingsDrawer.BAD);
         Check.due("drop(0, 0, 6)", x.drop(0, 0, 6), SettingsDrawer.BAD);
+        Check.due("drop(0, 3, 6) of nothing", x.drop(0, 3, 6), SettingsDrawer.BAD);
+        Check.due("drop(4, 3, 1) of nothing", x.drop(4, 3, 1), SettingsDrawer.BAD);
         Check.due("drop(2, b)", x.drop(2, 0, 1), SettingsDrawer.NONE);
         Check.due("drop(2, nothing)", x.drop(2, 3, 1), SettingsDrawer.NULL_POINTER);
         Check.due("refusals(0)", x.refusals(0), 1);

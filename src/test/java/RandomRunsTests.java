@@ -197,7 +197,7 @@ public final class RandomRunsTests {
     /** Where the document and java.util.Properties say the same, the program reads as Properties does. */
     private static void readAsProperties(Random random) throws Exception {
         String tape = tape(random);
-        if (tape.length() > 200 || isReadOtherwise(tape)) {
+        if (tape.length() > 120 || isReadOtherwise(tape)) {
             return;
         }
         SettingsDrawer x = new SettingsDrawer();

@@ -154,6 +154,7 @@ public final class TapeTests {
         reads("\\a\\b\\f\\0\\\"=\\T\\N\\R\\U\\x", "abf0\">TNRUx|");
         reads("\\\\=\\\\\\\\", "\\>\\\\|");
         reads("\\u0041\\u00e9=\\u00fF\\u00FfA\\u0000", "A\u00e9>\u00ff\u00ffA\u0000|");
+        reads("\\u00aA=\\u00Ba\\u0099", "\u00aa>\u00ba\u0099|");
         reads("a=\\u00\\\n  41", "a>A|");
         reads("a=\\\\u00", "a>\\u00|");
         reads("a=\\u00411", "a>A1|");
@@ -300,6 +301,7 @@ public final class TapeTests {
         Check.type(x, "old");
         x.append(1, 'v');
         x.set(0, 0, 1, 2);
+        Check.due("BAD comes before FULL", x.write(4), SettingsDrawer.BAD);
         Check.due("write(0) of 301 characters", x.write(0), SettingsDrawer.FULL);
         Check.dueText("the tape after FULL", Check.tape(x), "old");
         Check.putMany(x, 1, '=', 148);

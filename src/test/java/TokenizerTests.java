@@ -50,6 +50,8 @@ public final class TokenizerTests {
         Check.put(x, 1, ";,");
         Check.due("tokenizeBy(-1, 0, 1)", x.tokenizeBy(-1, 0, 1), SettingsDrawer.BAD);
         Check.due("tokenizeBy(2, 0, 1)", x.tokenizeBy(2, 0, 1), SettingsDrawer.BAD);
+        Check.due("tokenizeBy(2, nothing, nothing)", x.tokenizeBy(2, 2, 2), SettingsDrawer.BAD);
+        Check.due("tokenizeBy(2, nothing, 1)", x.tokenizeBy(2, 2, 1), SettingsDrawer.BAD);
         Check.due("tokenizeBy(0, 6, 1)", x.tokenizeBy(0, 6, 1), SettingsDrawer.BAD);
         Check.due("tokenizeBy(0, 0, -1)", x.tokenizeBy(0, 0, -1), SettingsDrawer.BAD);
         Check.due("tokenizeBy(0, 0, 1)", x.tokenizeBy(0, 0, 1), 2);
@@ -70,6 +72,8 @@ public final class TokenizerTests {
         Check.put(x, 1, ";,");
         Check.due("tokenizeAll(-1, 0, 1)", x.tokenizeAll(-1, 0, 1), SettingsDrawer.BAD);
         Check.due("tokenizeAll(2, 0, 1)", x.tokenizeAll(2, 0, 1), SettingsDrawer.BAD);
+        Check.due("tokenizeAll(-1, nothing, nothing)", x.tokenizeAll(-1, 2, 2), SettingsDrawer.BAD);
+        Check.due("tokenizeAll(0, 6, nothing)", x.tokenizeAll(0, 6, 2), SettingsDrawer.BAD);
         Check.due("tokenizeAll(0, -1, 1)", x.tokenizeAll(0, -1, 1), SettingsDrawer.BAD);
         Check.due("tokenizeAll(0, 0, 6)", x.tokenizeAll(0, 0, 6), SettingsDrawer.BAD);
         Check.due("tokenizeAll(0, 0, 1)", x.tokenizeAll(0, 0, 1), 6);
@@ -90,6 +94,9 @@ public final class TokenizerTests {
         Check.put(x, 1, ",");
         Check.due("tokenizeValue(-1, 0, 0, 1)", x.tokenizeValue(-1, 0, 0, 1), SettingsDrawer.BAD);
         Check.due("tokenizeValue(2, 0, 0, 1)", x.tokenizeValue(2, 0, 0, 1), SettingsDrawer.BAD);
+        Check.due("tokenizeValue(2, 0, 0, nothing)", x.tokenizeValue(2, 0, 0, 2), SettingsDrawer.BAD);
+        Check.due("tokenizeValue(2, 0, nothing, 1)", x.tokenizeValue(2, 0, 2, 1), SettingsDrawer.BAD);
+        Check.due("tokenizeValue(0, 4, nothing, nothing)", x.tokenizeValue(0, 4, 2, 2), SettingsDrawer.BAD);
         Check.due("tokenizeValue(0, -1, 0, 1)", x.tokenizeValue(0, -1, 0, 1), SettingsDrawer.BAD);
         Check.due("tokenizeValue(0, 4, 0, 1)", x.tokenizeValue(0, 4, 0, 1), SettingsDrawer.BAD);
         Check.due("tokenizeValue(0, 0, 6, 1)", x.tokenizeValue(0, 0, 6, 1), SettingsDrawer.BAD);
