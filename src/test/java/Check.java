@@ -5,8 +5,16 @@ final class Check {
 
     private static int wrong = 0;
     private static int asked = 0;
+    private static String sentence = "";
+    private static boolean sentenceTold = true;
 
     private Check() {
+    }
+
+    /** The sentence of the document that the answers from now on hold to; it is printed ahead of what breaks it. */
+    static void sentence(String text) {
+        sentence = text;
+        sentenceTold = false;
     }
 
     static void due(String call, long got, long want) {
@@ -26,6 +34,10 @@ final class Check {
     private static void tellWrong(String text) {
         wrong++;
         if (wrong <= TOLD) {
+            if (!sentenceTold) {
+                System.out.println("BROKEN: " + sentence);
+                sentenceTold = true;
+            }
             System.out.println(text);
         }
     }
@@ -76,6 +88,52 @@ final class Check {
         for (int i = 0; i < text.length(); i++) {
             x.type(text.charAt(i));
         }
+    }
+
+    /** A text of one character, many times. */
+    static String many(char character, int times) {
+        return String.valueOf(character).repeat(times);
+    }
+
+    /** Sets an entry of a layer by slots 4 and 5, which hold nothing then; returns what set() answered. */
+    static int entry(SettingsDrawer x, int layer, String key, String value) {
+        put(x, 4, key);
+        put(x, 5, value);
+        int answer = x.set(layer, 4, 5, 5);
+        x.forget(4);
+        x.forget(5);
+        return answer;
+    }
+
+    /** Sets forty entries of a layer, whose keys are 1 to 40 times a, by slots 4 and 5, which hold nothing then. */
+    static void fortyEntries(SettingsDrawer x, int layer) {
+        x.erase(4);
+        for (int i = 0; i < 40; i++) {
+            x.append(4, 'a');
+            x.set(layer, 4, 4, 5);
+        }
+        x.forget(4);
+        x.forget(5);
+    }
+
+    /** The tokens that are left, each ended by a bar, by slot 5; the tokenizer is dropped then. */
+    static String tokens(SettingsDrawer x, int tokenizer) {
+        StringBuilder all = new StringBuilder();
+        while (x.next(tokenizer, 5) >= 0) {
+            all.append(read(x, 5)).append('|');
+        }
+        return all.toString();
+    }
+
+    /** The value of a key that is seen from a layer, by slots 4 and 5, which hold nothing then; null if there is none. */
+    static String value(SettingsDrawer x, int layer, String key) {
+        put(x, 4, key);
+        x.forget(5);
+        x.get(layer, 4, 5);
+        String value = read(x, 5);
+        x.forget(4);
+        x.forget(5);
+        return value;
     }
 
     static String tape(SettingsDrawer x) {

@@ -19,24 +19,14 @@ public final class LayerTests {
         Check.finish("LayerTests");
     }
 
-    /** Puts an entry into a layer by slots 4 and 5; these hold nothing then. */
-    private static int entry(SettingsDrawer x, int layer, String key, String value) {
-        Check.put(x, 4, key);
-        Check.put(x, 5, value);
-        int size = x.set(layer, 4, 5, 5);
-        x.forget(4);
-        x.forget(5);
-        return size;
-    }
-
     private static SettingsDrawer threeLayers() {
         SettingsDrawer x = new SettingsDrawer();
-        entry(x, 0, "a", "a0");
-        entry(x, 0, "b", "b0");
-        entry(x, 1, "b", "b1b1");
-        entry(x, 1, "c", "");
-        entry(x, 3, "b", "b3");
-        entry(x, 3, "d", "d3");
+        Check.entry(x, 0, "a", "a0");
+        Check.entry(x, 0, "b", "b0");
+        Check.entry(x, 1, "b", "b1b1");
+        Check.entry(x, 1, "c", "");
+        Check.entry(x, 3, "b", "b3");
+        Check.entry(x, 3, "d", "d3");
         return x;
     }
 
@@ -259,8 +249,8 @@ public final class LayerTests {
 
     private static void name() {
         SettingsDrawer x = threeLayers();
-        entry(x, 2, "", "empty key");
-        entry(x, 2, "bb", "2");
+        Check.entry(x, 2, "", "empty key");
+        Check.entry(x, 2, "bb", "2");
         Check.due("name(-1, 0, 0)", x.name(-1, 0, 0), SettingsDrawer.BAD);
         Check.due("name(4, -1, 0)", x.name(4, -1, 0), SettingsDrawer.BAD);
         Check.due("name(0, -1, 6)", x.name(0, -1, 6), SettingsDrawer.BAD);
@@ -333,7 +323,7 @@ public final class LayerTests {
         SettingsDrawer x = new SettingsDrawer();
         String[] sorted = {"", "\u0000", "\u0000a", " ", "A", "Z", "a", "a\u0000", "aa", "ab", "b", "\u007f", "\u0080", "\u00ff"};
         for (int i = sorted.length - 1; i >= 0; i--) {
-            entry(x, i % 3, sorted[i], "");
+            Check.entry(x, i % 3, sorted[i], "");
         }
         Check.due("names(3)", x.names(3), sorted.length);
         for (int i = 0; i < sorted.length; i++) {
@@ -348,18 +338,18 @@ public final class LayerTests {
         Check.due("alike(0, 4)", x.alike(0, 4), SettingsDrawer.BAD);
         Check.due("alike of no entries", x.alike(0, 3), 1);
         Check.due("alike(2, 2)", x.alike(2, 2), 1);
-        entry(x, 0, "a", "1");
+        Check.entry(x, 0, "a", "1");
         Check.due("alike of one and none", x.alike(0, 3), 0);
         Check.due("alike of none and one", x.alike(3, 0), 0);
-        entry(x, 3, "a", "2");
+        Check.entry(x, 3, "a", "2");
         Check.due("alike of other values", x.alike(0, 3), 0);
-        entry(x, 3, "a", "1");
+        Check.entry(x, 3, "a", "1");
         Check.due("alike of one entry", x.alike(0, 3), 1);
-        entry(x, 0, "b", "1");
-        entry(x, 3, "c", "1");
+        Check.entry(x, 0, "b", "1");
+        Check.entry(x, 3, "c", "1");
         Check.due("alike of other keys", x.alike(0, 3), 0);
-        entry(x, 0, "c", "1");
-        entry(x, 3, "b", "1");
+        Check.entry(x, 0, "c", "1");
+        Check.entry(x, 3, "b", "1");
         Check.due("alike of entries put in another order", x.alike(0, 3), 1);
     }
 
@@ -379,10 +369,10 @@ public final class LayerTests {
         Check.due("digest(-1)", x.digest(-1), 0);
         Check.due("digest(4)", x.digest(4), 0);
         Check.due("digest(0) of no entries", x.digest(0), 7);
-        entry(x, 0, "", "");
+        Check.entry(x, 0, "", "");
         Check.due("digest(0) of empty texts", x.digest(0), (7 * 31 + 256) * 31 + 257);
-        entry(x, 0, "key", "v\u00ff");
-        entry(x, 0, "b", "a long value, so that it overflows");
+        Check.entry(x, 0, "key", "v\u00ff");
+        Check.entry(x, 0, "b", "a long value, so that it overflows");
         Check.due("digest(0)", x.digest(0), digestOf("", "", "b", "a long value, so that it overflows", "key", "v\u00ff"));
         Check.due("digest(1): the layer itself", x.digest(1), 7);
     }

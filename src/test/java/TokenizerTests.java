@@ -13,15 +13,6 @@ public final class TokenizerTests {
         Check.finish("TokenizerTests");
     }
 
-    /** The tokens that are left, each ended by a bar; the tokenizer is dropped then. */
-    private static String rest(SettingsDrawer x, int tokenizer) {
-        StringBuilder all = new StringBuilder();
-        while (x.next(tokenizer, 5) >= 0) {
-            all.append(Check.read(x, 5)).append('|');
-        }
-        return all.toString();
-    }
-
     private static void tokenize() {
         SettingsDrawer x = new SettingsDrawer();
         Check.put(x, 0, " a\tb\nc\rd\fe,\u000bf  \u00a0 g ");
@@ -33,7 +24,7 @@ public final class TokenizerTests {
         Check.due("tokenize(0, nothing)", x.tokenize(0, 1), SettingsDrawer.NULL_POINTER);
         Check.due("refusals(0)", x.refusals(0), 1);
         Check.due("count(0): the former tokenizer stays", x.count(0), 7);
-        Check.dueText("tokens", rest(x, 0), "a|b|c|d|e,\u000bf|\u00a0|g|");
+        Check.dueText("tokens", Check.tokens(x, 0), "a|b|c|d|e,\u000bf|\u00a0|g|");
         Check.due("count(1)", x.count(1), SettingsDrawer.NOT_MADE);
         x.erase(0);
         Check.due("tokenize of the empty text", x.tokenize(1, 0), 0);
@@ -41,7 +32,7 @@ public final class TokenizerTests {
         Check.put(x, 0, "one two");
         Check.due("tokenize in place of the former", x.tokenize(1, 0), 2);
         x.erase(0);
-        Check.dueText("the text is that of the making", rest(x, 1), "one|two|");
+        Check.dueText("the text is that of the making", Check.tokens(x, 1), "one|two|");
     }
 
     private static void tokenizeBy() {
@@ -60,10 +51,10 @@ public final class TokenizerTests {
         Check.due("tokenizeBy(0, nothing, 1)", x.tokenizeBy(0, 2, 1), SettingsDrawer.NULL_POINTER);
         Check.due("tokenizeBy(0, 0, nothing)", x.tokenizeBy(0, 0, 2), SettingsDrawer.NOTHING);
         Check.due("refusals(0)", x.refusals(0), 1);
-        Check.dueText("tokens", rest(x, 0), "a b|c|");
+        Check.dueText("tokens", Check.tokens(x, 0), "a b|c|");
         x.erase(1);
         Check.due("tokenizeBy without delimiters", x.tokenizeBy(1, 0, 1), 1);
-        Check.dueText("the whole text", rest(x, 1), ",a b;;c,|");
+        Check.dueText("the whole text", Check.tokens(x, 1), ",a b;;c,|");
     }
 
     private static void tokenizeAll() {
@@ -80,10 +71,10 @@ public final class TokenizerTests {
         Check.due("tokenizeAll(0, nothing, nothing)", x.tokenizeAll(0, 2, 2), SettingsDrawer.NOTHING);
         Check.due("tokenizeAll(0, nothing, 1)", x.tokenizeAll(0, 2, 1), SettingsDrawer.NULL_POINTER);
         Check.due("refusals(0)", x.refusals(0), 1);
-        Check.dueText("tokens", rest(x, 0), ",|a b|;|;|c|,|");
+        Check.dueText("tokens", Check.tokens(x, 0), ",|a b|;|;|c|,|");
         x.erase(1);
         Check.due("tokenizeAll without delimiters", x.tokenizeAll(1, 0, 1), 1);
-        Check.dueText("the whole text", rest(x, 1), ",a b;;c,|");
+        Check.dueText("the whole text", Check.tokens(x, 1), ",a b;;c,|");
         Check.due("tokenizeAll of the empty text", x.tokenizeAll(1, 1, 0), 0);
         Check.due("next of the empty text", x.next(1, 3), SettingsDrawer.NO_SUCH_ELEMENT);
     }
@@ -110,7 +101,7 @@ public final class TokenizerTests {
         Check.due("refusals(0)", x.refusals(0), 1);
         Check.due("tokenizeValue(0, 3, 1, 1)", x.tokenizeValue(0, 3, 1, 1), SettingsDrawer.NONE);
         x.empty(0);
-        Check.dueText("tokens", rest(x, 0), "a|b|c d|");
+        Check.dueText("tokens", Check.tokens(x, 0), "a|b|c d|");
     }
 
     private static void moreAndCount() {
@@ -209,7 +200,7 @@ public final class TokenizerTests {
         x.next(1, 4);
         Check.due("nextBy of returned delimiters", x.nextBy(1, 2, 4), 2);
         Check.dueText("the token", Check.read(x, 4), ",a");
-        Check.dueText("the rest", rest(x, 1), ";|b|");
+        Check.dueText("the rest", Check.tokens(x, 1), ";|b|");
     }
 
     private static void longTexts() {
