@@ -789,8 +789,8 @@ public final class SettingsDrawer {
         /** The place of the lowest key that is not lower than a text; behind all entries if there is none. */
         int placeFrom(String text) {
             for (int place = 0; place < filled; place++) {
-                String key = keyAt(place);
-                if (key != null && compareTexts(key, text) >= 0) {
+                Entry entry = entryAt(place);
+                if (entry != null && compareTexts(entry.key, text) >= 0) {
                     return place;
                 }
             }
@@ -1245,11 +1245,11 @@ public final class SettingsDrawer {
         }
 
         private int tapePlace(int place) {
-            return isWithin(place, filled) && place < TEXT_LIMIT ? places[place] : NONE;
+            return place >= 0 && place < filled && place < TEXT_LIMIT ? places[place] : NONE;
         }
 
         private int tapeSign(int place) {
-            return isWithin(place, signs.length()) ? signs.charAt(place) : NO_SIGN;
+            return place >= 0 && place < signs.length() ? signs.charAt(place) : NO_SIGN;
         }
     }
 
